@@ -165,6 +165,10 @@ public final class StackCoder {
         private final int[] ds = new int[MOST_INSTRUCTIONS];
         private final int[] as = new int[MOST_INSTRUCTIONS];
         private final int[] bs = new int[MOST_INSTRUCTIONS];
+        /** The registers that are written, read as a and read as b, or NONE. */
+        private final int[] written = new int[MOST_INSTRUCTIONS];
+        private final int[] readA = new int[MOST_INSTRUCTIONS];
+        private final int[] readB = new int[MOST_INSTRUCTIONS];
         private int count;
 
         static boolean fits(int operation, int d, int a, int b) {
@@ -204,6 +208,9 @@ public final class StackCoder {
             ds[i] = d;
             as[i] = a;
             bs[i] = b;
+            written[i] = D_KINDS[operation] == REGISTER ? d : NONE;
+            readA[i] = A_KINDS[operation] == REGISTER ? a : NONE;
+            readB[i] = B_KINDS[operation] == REGISTER ? b : NONE;
         }
 
         int operationOf(int i) {
@@ -224,25 +231,25 @@ public final class StackCoder {
 
         /** The register that instruction i writes, or NONE. */
         int writtenBy(int i) {
-            return D_KINDS[operations[i]] == REGISTER ? ds[i] : NONE;
+            return written[i];
         }
 
         /** The register that instruction i reads as its a, or NONE. */
         int readAsA(int i) {
-            return A_KINDS[operations[i]] == REGISTER ? as[i] : NONE;
+            return readA[i];
         }
 
         /** The register that instruction i reads as its b, or NONE. */
         int readAsB(int i) {
-            return B_KINDS[operations[i]] == REGISTER ? bs[i] : NONE;
+            return readB[i];
         }
 
         boolean reads(int i, int register) {
-            return readAsA(i) == register || readAsB(i) == register;
+            return readA[i] == register || readB[i] == register;
         }
 
         boolean readsOnce(int i, int register) {
-            return (readAsA(i) == register) != (readAsB(i) == register);
+            return (readA[i] == register) != (readB[i] == register);
         }
     }
 
@@ -253,7 +260,8 @@ public final class StackCoder {
 
         private final RegisterCode code;
         private final boolean[] begins = new boolean[MOST_INSTRUCTIONS];
-        private final int[] lives = new int[MOST_INSTRUCTIONS];
+        private final int[] before = new int[MOST_INSTRUCTIONS];
+        private final int[] after = new int[MOST_INSTRUCTIONS];
 
         Flow(RegisterCode code) {
             this.code = code;
@@ -267,7 +275,7 @@ public final class StackCoder {
         void trace() {
             markBlocks();
             for (int i = 0; i < code.count(); i++) {
-                lives[i] = 0;
+                before[i] = 0;
             }
             boolean changed = true;
             for (int round = 0; changed && round < MOST_ROUNDS; round++) {
@@ -307,25 +315,16 @@ public final class StackCoder {
         private boolean flowBack() {
             boolean changed = false;
             for (int i = code.count() - 1; i >= 0; i--) {
+                after[i] = gatherAfter(i);
                 int read = setOf(code.readAsA(i)) | setOf(code.readAsB(i));
-                int before = read | (liveAfter(i) & ~setOf(code.writtenBy(i)));
-                changed = changed || before != lives[i];
-                lives[i] = before;
+                int live = read | (after[i] & ~setOf(code.writtenBy(i)));
+                changed = changed || live != before[i];
+                before[i] = live;
             }
             return changed;
         }
 
-        /** Whether instruction i is there and in one block with the one before it. */
-        boolean continuesBlock(int i) {
-            return code.holds(i) && !begins[i];
-        }
-
-        /** Nothing is live behind the last instruction. */
-        int liveBefore(int i) {
-            return code.holds(i) ? lives[i] : 0;
-        }
-
-        int liveAfter(int i) {
+        private int gatherAfter(int i) {
             switch (code.operationOf(i)) {
                 case RegisterCode.JUMP:
                     return liveBefore(code.aOf(i));
@@ -336,6 +335,20 @@ public final class StackCoder {
                 default:
                     return liveBefore(i + 1);
             }
+        }
+
+        boolean beginsBlock(int i) {
+            return begins[i];
+        }
+
+        /** Nothing is live behind the last instruction. */
+        int liveBefore(int i) {
+            return code.holds(i) ? before[i] : 0;
+        }
+
+        /** What is live before the instructions to which one goes on from i. */
+        int liveAfter(int i) {
+            return after[i];
         }
     }
 
@@ -403,7 +416,7 @@ public final class StackCoder {
             if (register == NONE) {
                 return NONE;
             }
-            for (int k = j; k > 0 && flow.continuesBlock(k); k--) {
+            for (int k = j; k > 0 && !flow.beginsBlock(k); k--) {
                 if (code.writtenBy(k - 1) == register) {
                     return k - 1;
                 }
@@ -415,7 +428,7 @@ public final class StackCoder {
         private boolean isReadByNoneBut(int j, int i) {
             int register = code.writtenBy(i);
             int last = i;
-            for (int k = i + 1; flow.continuesBlock(k); k++) {
+            for (int k = i + 1; k < code.count() && !flow.beginsBlock(k); k++) {
                 if (k != j && code.reads(k, register)) {
                     return false;
                 }
@@ -645,7 +658,7 @@ public final class StackCoder {
 
         /** Where the first instruction from i on that is not carried begins. */
         private int startFrom(int i) {
-            for (int k = i; code.holds(k); k++) {
+            for (int k = i; k < code.count(); k++) {
                 if (!carrying.isCarried(k)) {
                     return starts[k];
                 }

@@ -134,6 +134,10 @@ public final class CarryTest {
     private static void onlyInOneBlock() {
         dueCarried("a jump goes to j",
             Check.made(3, 0, 1, 5, 0, 8, 0, 1, 0, 10, 0, 2, 1), -1, -1, -1);
+        dueCarried("a ZERO that is never reached goes to j",
+            Check.made(3, 0, 1, 5, 0, 8, 0, 1, 0, 11, 0, 0, 0, 10, 0, 2, 1), -1, -1, -1, -1);
+        dueCarried("a JUMP that is never reached goes to j",
+            Check.made(3, 0, 1, 5, 0, 8, 0, 1, 0, 11, 0, 0, 0, 9, 0, 1, 0), -1, -1, -1, -1);
         dueCarried("a jump goes to i",
             Check.made(3, 8, 0, 3, 0, 0, 1, 5, 0, 8, 0, 1, 0, 10, 0, 2, 1), -1, 2, -1, -1);
         dueCarried("a jump goes between",

@@ -89,6 +89,10 @@ public final class CodeTest {
         StackCoder read = Check.made(3, 0, 1, 5, 0, 8, 0, 1, 0, 8, 0, 1, 0);
         Check.dueCode("read twice", read, push(5), put(1), get(1), PRINT, get(1), PRINT, END);
         Check.due("read twice: stores()", read.stores(), 1);
+        read.add(8, 0, 1, 0);
+        Check.due("read three times: stores()", read.stores(), 1);
+        read.cut(1);
+        Check.due("not read: stores()", read.stores(), 0);
         StackCoder again = Check.made(3, 0, 1, 5, 0, 0, 1, 6, 0, 8, 0, 1, 0);
         Check.dueCode("written again", again, push(5), DROP, push(6), PRINT, END);
         Check.due("written again: stores()", again.stores(), 0);

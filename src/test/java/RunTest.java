@@ -65,6 +65,8 @@ public final class RunTest {
             5, 5, 1, 4, 8, 0, 5, 0), 1);
         duePrinted("JUMP", Check.made(3, 9, 0, 2, 0, 8, 0, 1, 0, 0, 1, 5, 0, 8, 0, 1, 0), 5);
         duePrinted("ZERO of 0", Check.made(3, 0, 1, 5, 0, 10, 0, 0, 3, 8, 0, 1, 0, 8, 0, 1, 0), 5);
+        duePrinted("ZERO of less than 0",
+            Check.made(3, 0, 1, -5, 0, 10, 0, 1, 3, 8, 0, 1, 0, 8, 0, 1, 0), -5, -5);
         duePrinted("ZERO of another", Check.made(3, 0, 1, 5, 0, 10, 0, 1, 3, 8, 0, 1, 0, 8, 0, 1, 0), 5, 5);
     }
 
