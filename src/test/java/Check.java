@@ -16,6 +16,13 @@ final class Check {
         due(what, got ? 1 : 0, want ? 1 : 0);
     }
 
+    static void due(String what, String got, String want) {
+        if (!got.equals(want)) {
+            wrong++;
+            System.out.println(what + ": answered " + got + ", due is " + want);
+        }
+    }
+
     /** The whole stack code of x is this row of coded operations. */
     static void dueCode(String what, StackCoder x, int... want) {
         due(what + ", length()", x.length(), want.length);
