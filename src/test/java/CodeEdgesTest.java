@@ -182,8 +182,11 @@ public final class CodeEdgesTest {
         dueCode("ZERO beyond", "ZERO 2 39; PRINT 1", "GET 2; ZERO 4; GET 1; PRINT; END");
         dueCode("the last is END", "JUMP 2; END", "JUMP 2; END; END");
         StackCoder x = Text.coder(3, "JUMP 2; PRINT 1; PRINT 2");
+        Check.due("before the cut: length()", x.length(), 6);
         x.cut(2);
         Check.due("to what was cut off", Text.stackCode(x), "JUMP 3; GET 1; PRINT; END");
+        Text.set(x, 1, "ADD 1 2 3");
+        Check.due("and END moved", Text.stackCode(x), "JUMP 5; GET 2; GET 3; ADD; DROP; END");
     }
 
     /** Terms: "PUT of d, if the register is read behind it [...] before it is written again". */

@@ -138,6 +138,7 @@ public final class LiveEdgesTest {
         dueLive("ZERO there", "ZERO 3 2; PRINT 1", "10 2");
         dueLive("ZERO as the last", "PRINT 1; ZERO 3 39", "10 8");
         StackCoder x = Text.coder(3, "JUMP 2; PRINT 1; PRINT 2");
+        Check.due("before the cut", Text.live(x), "4 6 4");
         x.cut(2);
         Check.due("JUMP to what was cut off", Text.live(x), "0 2");
     }
@@ -147,6 +148,7 @@ public final class LiveEdgesTest {
         dueLive("JUMP to itself", "JUMP 0; PRINT 1", "0 2");
         dueLive("ZERO to itself", "ZERO 1 0; PRINT 2", "6 4");
         dueLive("round", "PRINT 1; CONST 2 5; JUMP 0", "2 2 2");
+        dueLive("round, all read", "PRINT 1; PRINT 2; ZERO 3 0", "14 14 14");
         dueLive("round, written", "PRINT 1; CONST 1 5; JUMP 0", "2 0 2");
     }
 

@@ -25,6 +25,7 @@ public final class OracleTest {
             deepest = Math.max(deepest, x.depth());
             swaps += oracle.stack.contains(40000) ? 1 : 0;
         }
+        editedCodes(random);
         Check.due("many are carried", carried > 5 * ROUNDS, true);
         Check.due("some go deep", deepest >= 4, true);
         Check.due("many have SWAP", swaps > ROUNDS / 5, true);
@@ -52,6 +53,42 @@ public final class OracleTest {
                 Check.due("add", x.add(code[i][0], code[i][1], code[i][2], code[i][3]), i);
             }
         }
+    }
+
+    /** Short codes, asked for and run, then changed and asked for and run again, in 512 calls. */
+    private static void editedCodes(Random random) {
+        for (int round = 0; round < ROUNDS; round++) {
+            int depth = 1 + random.nextInt(8);
+            StackCoder x = new StackCoder(depth);
+            int[][] code = new int[1 + random.nextInt(10)][];
+            build(random, x, code, new CodeMaker(random, code.length));
+            compareCode("first, round " + round, x, new Oracle(depth, code));
+            compareRuns("first, round " + round, x, new Oracle(depth, code));
+            code = edit(random, x, code);
+            compareCode("then, round " + round, x, new Oracle(depth, code));
+            compareRuns("then, round " + round, x, new Oracle(depth, code));
+        }
+    }
+
+    /** Cuts off some, changes one, adds some; tries what is refused as well. */
+    private static int[][] edit(Random random, StackCoder x, int[][] code) {
+        int left = random.nextInt(code.length + 1);
+        int[][] edited = java.util.Arrays.copyOf(code, left + random.nextInt(3));
+        CodeMaker maker = new CodeMaker(random, edited.length);
+        Check.due("cut", x.cut(left), true);
+        Check.due("refused cut", x.cut(left + 1), false);
+        if (left > 0) {
+            int i = random.nextInt(left);
+            edited[i] = maker.any();
+            Check.due("set", x.set(i, edited[i][0], edited[i][1], edited[i][2], edited[i][3]), true);
+        }
+        Check.due("refused set", x.set(left, 11, 0, 0, 0), false);
+        for (int i = left; i < edited.length; i++) {
+            edited[i] = maker.any();
+            Check.due("add", x.add(edited[i][0], edited[i][1], edited[i][2], edited[i][3]), i);
+        }
+        Check.due("refused add", x.add(12, 0, 0, 0), -1);
+        return edited;
     }
 
     private static void compareCode(String what, StackCoder x, Oracle oracle) {

@@ -187,16 +187,14 @@ public final class RunEdgesTest {
 
     /** Terms: "or after 2000 operations": what was left on the stack then hinders no later run. */
     private static void beginsWithAnEmptyStack() {
-        String code = "PRINT 1; PRINT 1; ADD 2 3 4; ADD 5 6 7; ADD 8 2 5; PRINT 8; JUMP 2";
-        StackCoder x = Text.coder(3, code);
-        String first = Text.printed(x, 1);
+        StackCoder x = Text.coder(8, "PRINT 1; PRINT 1; ADD 2 3 4; ADD 5 6 7; ADD 8 2 5; PRINT 8; JUMP 2");
         for (int k = 0; k < 10; k++) {
-            Check.due("run again", Text.printed(x, 1), first);
-            Check.due("run again: steps()", x.steps(), 2000);
+            Check.due("ended between ADD and ADD: run(1)", x.run(1), 2 + 221);
+            Check.due("ended between ADD and ADD: steps()", x.steps(), 2000);
         }
         x.cut(0);
-        Text.add(x, "CONST 1 9; CONST 2 4; SUB 3 1 2; PRINT 3");
-        Check.due("other code", Text.printed(x, 1), "1: 5");
+        addDeepCode(x);
+        Check.due("deep code behind it", Text.printed(x, 1), "1: 112");
     }
 
     /** Terms: "ADD [...] (all wrap)". */
@@ -457,12 +455,17 @@ public final class RunEdgesTest {
     /** What it is: "how deep that may go": 6 is the most that 40 instructions can need. */
     private static void deepestStack() {
         StackCoder x = new StackCoder(8);
+        addDeepCode(x);
+        Check.due("deep: need of the last", x.need(x.size() - 1), 6);
+        Check.due("deep: stores()", x.stores(), 2);
+        duePrinted("deep", x, "1: 112");
+    }
+
+    /** Puts out 16 * 7. */
+    private static void addDeepCode(StackCoder x) {
         Text.add(x, "CONST 8 5; CONST 9 2");
         addSums(x, 4, 0);
         Text.add(x, "PRINT 0");
-        Check.due("deep: need of the last", x.need(x.size() - 1), 6);
-        Check.due("deep: stores()", x.stores(), 2);
-        duePrinted("deep", x, "1: " + 7 * 16);
     }
 
     /** 2^height sums of r8 and r9, joined by sums. */
